@@ -774,6 +774,8 @@ public final class PromisesTest {
         C.due("as far as it goes", x.judge(1), -2);
         shorts(x, 1, 40, 20, 7);
         C.due("no more than LONG count", x.judge(1), -2);
+        shorts(x, 1, 40, 21, 7);
+        C.due("but as many do", x.judge(1), 1);
         shorts(x, 1);
         C.due("nothing is so", x.judge(1), -2);
         shorts(x, 1, 65536 + 40);
@@ -932,9 +934,17 @@ public final class PromisesTest {
         C.due("some are hissed", y.drawn(7, 403, 1), crossed);
         y.mend(0, 9, 0);
         y.turn(1, 1);
-        z = 3 * 1103515245 + 12345;
-        C.due("which turn", y.drawn(3, 101, 0), (z >>> 8) % 2 == 0 ? 99 : 12);
-        z = z * 1103515245 + 12345;
+        z = 3;
+        sum = 0;
+        for (int evening = 0; evening < 20; evening++) {
+            z = z * 1103515245 + 12345;
+            sum += (z >>> 8) % 2 == 0 ? 99 : 12;
+        }
+        C.due("which turns", y.drawn(3, 2001, 0), sum);
+        IceOfApplause w = small();
+        tell(w, "50");
+        w.mend(0, 7, 0);
+        C.due("100 carries 100", w.drawn(3, 702, 1), 7);
         C.due("in thought", y.of(0, 10), 0);
         C.due("no deeds", y.led(0), 0);
     }
