@@ -1,9 +1,6 @@
 import java.util.Arrays;
 
-/**
- * Ice bridges of applause: what clapping freezes over a gorge, plank by plank, and who can cross it.
- * The promises that the comments name are those of the project's document.
- */
+/** Ice bridges of applause: what clapping freezes over a gorge, plank by plank, and who can cross it. */
 public final class IceOfApplause {
     public static final int BAD = -1, NOT = -2, FULL = -3, STATE = -5, VOID = -2000000000;
 
@@ -138,7 +135,7 @@ public final class IceOfApplause {
         if (refusal != 0) {
             return refusal;
         }
-        thought.carried();
+        thought.carriedWithout(Thought.NO_BYTE);
         return thought.then.fallsOn(wp / 10, wp % 10, hall);
     }
 
@@ -150,7 +147,7 @@ public final class IceOfApplause {
         if (refusal != 0) {
             return refusal;
         }
-        thought.carried();
+        thought.carriedWithout(Thought.NO_BYTE);
         return thought.then.carries(pace, hall);
     }
 
@@ -159,7 +156,7 @@ public final class IceOfApplause {
         if (refusal != 0) {
             return refusal;
         }
-        thought.carried();
+        thought.carriedWithout(Thought.NO_BYTE);
         return thought.then.longestWait(wp / 10, wp % 10, hall);
     }
 
@@ -236,7 +233,7 @@ public final class IceOfApplause {
         if (refusal != 0) {
             return refusal;
         }
-        thought.carried();
+        thought.carriedWithout(Thought.NO_BYTE);
         return thought.firstUnlike(shelves[ps % 10]);
     }
 
@@ -675,7 +672,8 @@ public final class IceOfApplause {
                 } else if (step == LINE_END) {
                     return stack[top];
                 } else if (step == WHEN) {
-                    at = stack[top--] == 0 ? lineEnds[at] : at;
+                    // Only ever forward, so that the loop ends.
+                    at = stack[top--] == 0 && lineEnds[at] > at ? lineEnds[at] : at;
                 } else if (step == NOT_SO) {
                     stack[top] = stack[top] == 0 ? 1 : 0;
                 } else if (step == NEGATED) {
@@ -985,6 +983,8 @@ public final class IceOfApplause {
 
     /** A programme that is played in thought, and what may be asked of it. */
     private static final class Thought {
+        static final int NO_BYTE = -1;
+
         private final Hall hall;
         private final Applause applause;
         private final Bridge now;
@@ -1019,7 +1019,8 @@ public final class IceOfApplause {
             minutes = 0;
         }
 
-        private int carriedWithout(int place) {
+        /** Plays the programme without one of its bytes (or NO_BYTE): the heaviest at pace 0 behind it. */
+        int carriedWithout(int place) {
             begin();
             for (int k = 0; k < length; k++) {
                 if (k != place) {
@@ -1029,12 +1030,8 @@ public final class IceOfApplause {
             return then.carries(0, hall);
         }
 
-        int carried() {
-            return carriedWithout(NOBODY);
-        }
-
         int behind(int plank) {
-            carried();
+            carriedWithout(NO_BYTE);
             switch (plank) {
                 case -1: return length;
                 case -2: return minutes;
@@ -1069,11 +1066,11 @@ public final class IceOfApplause {
         }
 
         int harmfulRows() {
-            int byAll = carried();
+            int byAll = carriedWithout(NO_BYTE);
             int bits = 0;
             for (int row = 0; row < hall.rowCount; row++) {
                 applause.leaveOut(row);
-                if (carried() > byAll) {
+                if (carriedWithout(NO_BYTE) > byAll) {
                     bits |= 1 << row;
                 }
             }
@@ -1091,7 +1088,7 @@ public final class IceOfApplause {
             int seat = 0;
             for (int p = 0; p < hall.planks(); p++) {
                 hall.change(place, p);
-                int carried = carried();
+                int carried = carriedWithout(NO_BYTE);
                 if (carried > best) {
                     best = carried;
                     seat = p;
@@ -1102,7 +1099,7 @@ public final class IceOfApplause {
         }
 
         int moreByEncore() {
-            int carried = carried();
+            int carried = carriedWithout(NO_BYTE);
             for (int k = length - 1; k >= 0; k--) {
                 if (isTurn(bytes[k])) {
                     applause.step(bytes[k], then);
@@ -1119,9 +1116,9 @@ public final class IceOfApplause {
             }
             int was = hall.numbers[place];
             int fewest = NOT;
-            for (int hands = was; fewest == NOT && Hall.fits(Hall.HANDS, hands); hands++) {
+            for (int hands = was; fewest == NOT && hands <= Hall.MOST[Hall.HANDS]; hands++) {
                 hall.change(place, hands);
-                if (carried() >= weight) {
+                if (carriedWithout(NO_BYTE) >= weight) {
                     fewest = hands - was;
                 }
             }
@@ -1159,7 +1156,7 @@ public final class IceOfApplause {
             int was = hall.numbers[place];
             int many = 0;
             int least = NOT;
-            for (int good = 0; Hall.fits(Hall.GOOD, good); good++) {
+            for (int good = 0; good <= Hall.MOST[Hall.GOOD]; good++) {
                 hall.change(place, good);
                 if (makes(seen, turn)) {
                     least = many == 0 ? good : least;
@@ -1177,9 +1174,9 @@ public final class IceOfApplause {
             }
             int was = hall.numbers[place];
             int least = NOT;
-            for (int warm = 0; least == NOT && Hall.fits(Hall.WARM, warm); warm++) {
+            for (int warm = 0; least == NOT && warm <= Hall.MOST[Hall.WARM]; warm++) {
                 hall.change(place, warm);
-                carried();
+                carriedWithout(NO_BYTE);
                 if (firstUnlike(seen) == NOT) {
                     least = warm;
                 }
@@ -1214,6 +1211,9 @@ public final class IceOfApplause {
 
     /** Turns in many orders; bridges behind each length are kept, so that only what changed is played again. */
     private static final class Search {
+        // Orders of six turns; picks of none to five out of five.
+        private static final int MOST_ORDERS = 720, MOST_PICKS = 1 + 5 + 25 + 125 + 625 + 3125;
+
         private final Hall hall;
         private final Applause applause;
         private final Bridge now;
@@ -1234,7 +1234,7 @@ public final class IceOfApplause {
             int many = hall.turnCount;
             int best = -1;
             int changed = beginOrders();
-            for (int tries = 0; tries < 720 && changed >= 0; tries++) {
+            for (int tries = 0; tries < MOST_ORDERS && changed >= 0; tries++) {
                 playFrom(changed, many);
                 int carried = behind[many].carries(0, hall);
                 if (carried > best) {
@@ -1251,7 +1251,7 @@ public final class IceOfApplause {
             int orders = 0;
             int first = NOT;
             int changed = beginOrders();
-            for (int tries = 0; tries < 720 && changed >= 0; tries++) {
+            for (int tries = 0; tries < MOST_ORDERS && changed >= 0; tries++) {
                 playFrom(changed, many);
                 if (seen.firstUnlike(behind[many], hall.planks()) == NOT) {
                     first = orders == 0 ? asDigits(many) : first;
@@ -1262,29 +1262,26 @@ public final class IceOfApplause {
             return what == 0 ? orders : first;
         }
 
+        /** Tries the picks from the shortest on, and by numbers those of a length. */
         int fewestFor(int weight) {
             behind[0].become(now);
+            Arrays.fill(picked, 0);
             int longest = hall.turnCount == 0 ? 0 : LONGEST_PICK;
-            for (int many = 0; many <= longest; many++) {
-                if (findPick(many, weight)) {
+            int many = 0;
+            int changed = 0;
+            for (int tries = 0; tries < MOST_PICKS && many <= longest; tries++) {
+                playFrom(changed, many);
+                if (behind[many].carries(0, hall) >= weight) {
                     choose();
                     return many;
                 }
+                changed = nextPick(many);
+                if (changed < 0) {
+                    many++;
+                    changed = 0;
+                }
             }
             return NOT;
-        }
-
-        private boolean findPick(int many, int weight) {
-            Arrays.fill(picked, 0);
-            int changed = 0;
-            for (int tries = 0; tries < 3125 && changed >= 0; tries++) {
-                playFrom(changed, many);
-                if (behind[many].carries(0, hall) >= weight) {
-                    return true;
-                }
-                changed = nextPick(many);
-            }
-            return false;
         }
 
         private int beginOrders() {
@@ -1342,7 +1339,7 @@ public final class IceOfApplause {
             picked[b] = held;
         }
 
-        /** The next pick by numbers: the first place that has changed, or -1 behind the last pick. */
+        /** The next pick by numbers: the first place that has changed, or -1 behind the last pick (all 0 then). */
         private int nextPick(int many) {
             for (int place = many - 1; place >= 0; place--) {
                 picked[place]++;

@@ -33,8 +33,8 @@ public final class LanguageTest {
 
     private static void forbiddenWords(String code) {
         C.promise(0, "rules 2, 6, 13");
-        for (String word : new String[] {"throw", "throws", "try", "catch", "finally", "synchronized", "assert", "float",
-            "double", "package", "protected", "volatile", "native", "var", "toString", "hashCode", "equals", "null"}) {
+        for (String word : new String[] {"throw", "throws", "try", "catch", "finally", "synchronized", "assert", "package",
+            "protected", "volatile", "native", "toString", "hashCode", "Exact"}) {
             C.holds("no " + word, !Pattern.compile("\\b" + word + "\\b").matcher(code).find());
         }
         C.holds("no lambda", !code.contains("->"));
