@@ -8,6 +8,11 @@ final class Check {
         promise = "promise " + number + " (" + name + ")";
     }
 
+    /** Words of the document that the answers behind are due by. */
+    void says(String words) {
+        promise = "\"" + words + "\"";
+    }
+
     void due(String call, long got, long want) {
         if (got == want) {
             right++;

@@ -1,8 +1,5 @@
 /** Each promise of the document by hand: ordinary numbers, the edges it names, and wrong numbers. */
-public final class PromisesTest {
-    private static final int MIN = Integer.MIN_VALUE, MAX = Integer.MAX_VALUE;
-    private static final Check C = new Check();
-
+public final class PromisesTest extends Told {
     public static void main(String[] args) {
         newObject();
         hands();
@@ -51,40 +48,6 @@ public final class PromisesTest {
     }
 
     // ---- helpers
-
-    /** A row of bytes on a shelf. */
-    private static void bytes(IceOfApplause x, int shelf, int... values) {
-        fill(x, shelf, 0, values);
-    }
-
-    /** A row of shorts on a shelf. */
-    private static void shorts(IceOfApplause x, int shelf, int... values) {
-        fill(x, shelf, 1, values);
-    }
-
-    private static void fill(IceOfApplause x, int shelf, int sort, int... values) {
-        x.row(shelf, sort, values.length);
-        for (int i = 0; i < values.length; i++) {
-            x.put(shelf, i, values[i]);
-        }
-    }
-
-    private static int tell(IceOfApplause x, String text) {
-        for (int i = 0; i < text.length(); i++) {
-            x.feed(text.charAt(i));
-        }
-        return x.law();
-    }
-
-    /** Two planks, one row of 40 hands over plank 0, turn 0 (GOOD 4, 1 minute), turn 1 (GOOD 2, 5 minutes). */
-    private static IceOfApplause small() {
-        IceOfApplause x = new IceOfApplause();
-        x.mend(0, 6, 2);
-        x.hands(40, 0);
-        x.turn(4, 1);
-        x.turn(2, 5);
-        return x;
-    }
 
     private static int value(String text) {
         IceOfApplause x = new IceOfApplause();
@@ -1153,14 +1116,6 @@ public final class PromisesTest {
         C.due("fifty", x.count(4), 50);
         C.due("the last one's kind", x.keep(0, 49), 1);
         C.due("the last one's kind", x.taken(0, 0), 1);
-    }
-
-    private static IceOfApplause oneOfEach() {
-        IceOfApplause x = new IceOfApplause();
-        for (int kind = 0; kind < 8; kind++) {
-            x.body(kind);
-        }
-        return x;
     }
 
     private static void act() {
