@@ -619,8 +619,8 @@ public final class IceOfApplause {
 
     /** A law in the order in which it is worked out: numbers and names come ahead of the sign that joins them. */
     private static final class Law {
-        // Each byte of a text, and the end of each line, makes one step at the most.
-        static final int LONGEST = 2 * LONGEST_TAPE + 2;
+        // Each byte of a text makes one step at the most (a ; ends a line), and the end of the text one more.
+        static final int LONGEST = LONGEST_TAPE + 1;
         // Steps below the first name are numbers (of four digits at the most).
         static final int FIRST_NAME = 10000, ICE_NAME = FIRST_NAME + 5, FIRST_JOIN = ICE_NAME + 1;
         private static final int OR = FIRST_JOIN, AND = OR + 1, LESS = OR + 2, LIKE = OR + 3, MORE = OR + 4,
@@ -665,6 +665,11 @@ public final class IceOfApplause {
             int top = -1;
             for (int at = 0; at < length; at++) {
                 int step = steps[at];
+                // A step that joins takes two from the stack, one that turns or ends something takes one.
+                int takes = step <= ICE_NAME ? 0 : step < NOT_SO ? 2 : 1;
+                if (top + 1 < takes || top + 1 >= LONGEST) {
+                    return 0;
+                }
                 if (step < FIRST_NAME) {
                     stack[++top] = step;
                 } else if (step <= ICE_NAME) {

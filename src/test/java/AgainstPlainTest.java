@@ -2,7 +2,9 @@ import java.util.Random;
 
 /** Runs of calls drawn by seeds, each answered by the class and by PlainGorge. */
 public final class AgainstPlainTest {
-    private static final int RUNS = 150, CALLS = 400;
+    private static final int RUNS = 900;
+    // An object is used for 512 calls at most; a law or a programme takes no more than 150.
+    private static final int LAST_BEGUN = 512 - 150;
     private static final int[] WILD = {Integer.MIN_VALUE, Integer.MAX_VALUE, -1, -2, -5, 10000, 61, 16, 100, 1000000};
     private static final Check C = new Check();
 
@@ -14,12 +16,16 @@ public final class AgainstPlainTest {
     private final int turnsAtMost;
     // Some runs go on as wrongly as may be, most of them mostly as the document asks.
     private final int wildOneIn;
+    // What half of a run's calls are about, so that the few calls of a run come far in something.
+    private final int theme;
+    private int calls = 0;
 
     private AgainstPlainTest(int run) {
         this.run = run;
         random = new Random(run * 7919L + 17);
         turnsAtMost = run % 25 == 0 ? 8 : run % 5 == 0 ? 5 : 1 + random.nextInt(4);
         wildOneIn = run % 7 == 0 ? 4 : 40;
+        theme = run % 6;
     }
 
     public static void main(String[] args) {
@@ -31,8 +37,20 @@ public final class AgainstPlainTest {
 
     private void play() {
         C.promise(0, "run " + run);
-        for (int k = 0; k < CALLS; k++) {
-            call(random.nextInt(60));
+        while (calls <= LAST_BEGUN) {
+            call(random.nextBoolean() ? random.nextInt(60) : ofTheme());
+        }
+        C.holds("512 calls at most, not " + calls, calls <= 512);
+    }
+
+    private int ofTheme() {
+        switch (theme) {
+            case 0: return random.nextInt(6) == 0 ? 45 : 4 + random.nextInt(4);
+            case 1: return random.nextInt(15);
+            case 2: return 15 + random.nextInt(17);
+            case 3: return 32 + random.nextInt(6);
+            case 4: return 38 + random.nextInt(8);
+            default: return 46 + random.nextInt(14);
         }
     }
 
@@ -62,6 +80,7 @@ public final class AgainstPlainTest {
     }
 
     private void due(String call, long got, long want) {
+        calls++;
         C.due(call, got, want);
     }
 

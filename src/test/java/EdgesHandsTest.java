@@ -209,17 +209,6 @@ public final class EdgesHandsTest extends Told {
 
     // ---- THE LAW
 
-    /** What a law gives: GOOD 6, HANDS 7, TASTE 3, ENVY 2, from plank 5 to plank 1, where no ice is. */
-    private static int worth(String text) {
-        IceOfApplause x = new IceOfApplause();
-        x.hands(7, 5);
-        x.mend(0, 2, 3);
-        x.mend(0, 3, 2);
-        x.turn(6, 1);
-        due("law " + text, tell(x, text), 1);
-        return x.gives(0, 1);
-    }
-
     private static void dueWorth(String text, int want) {
         due(text, worth(text), want);
     }

@@ -259,17 +259,6 @@ public final class EdgesSeenTest extends Told {
 
     // ---- ORDERS
 
-    private static IceOfApplause turns(int many, String law) {
-        IceOfApplause x = new IceOfApplause();
-        x.mend(0, 7, 0);
-        x.hands(1, 0);
-        for (int k = 0; k < many; k++) {
-            x.turn(k, 1);
-        }
-        tell(x, law);
-        return x;
-    }
-
     private static void ordersOfHowMany() {
         says("ORDERS: of all orders of all TURNS, each once, how many make all so; the first (NOT)");
         int[] all = {1, 1, 2, 6, 24, 120, 720};

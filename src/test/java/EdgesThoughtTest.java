@@ -18,6 +18,7 @@ public final class EdgesThoughtTest extends Told {
         orderOfLikeOnes();
         orderLastOfAll();
         orderFromNow();
+        atPace0();
         fewestNoneToFive();
         fewestOfLikeOnes();
         fewestLastOfAll();
@@ -294,18 +295,6 @@ public final class EdgesThoughtTest extends Told {
 
     // ---- BEST ORDER
 
-    /** No ice, no thaw; turns of GOOD 0, 1, .. clapped for by a law. */
-    private static IceOfApplause turns(int many, String law) {
-        IceOfApplause x = new IceOfApplause();
-        x.mend(0, 7, 0);
-        x.hands(1, 0);
-        for (int k = 0; k < many; k++) {
-            x.turn(k, 1);
-        }
-        due("law " + law, tell(x, law), 1);
-        return x;
-    }
-
     private static void orderOfHowMany() {
         says("BEST ORDER: of all TURNS (6 at most, else STATE): that (k -1), the k-th. BAD; STATE; NOT");
         for (int many = 0; many <= 8; many++) {
@@ -355,6 +344,32 @@ public final class EdgesThoughtTest extends Told {
         for (int k = 0; k < 6; k++) {
             due("place " + k, x.order(k), best[k]);
         }
+    }
+
+    private static void atPace0() {
+        says("HEAVIEST (PACE 0); can cross at PACE 0");
+        IceOfApplause x = iced(50, 50, 50);
+        x.mend(0, 7, 9);
+        tell(x, "9");
+        bytes(x, 0, 0);
+        due("order", x.order(-1), 50);
+        due("fewest, none", x.fewest(50, -1), 0);
+        due("fewest, never", x.fewest(51, -1), NOT);
+        due("spare", x.spare(0, 1), 50);
+        due("seat", x.seat(0, 0, 1), 50);
+        due("encore", x.encore(0), 0);
+        due("claque", x.claque(0, 50), 0);
+        due("claque, never", x.claque(0, 51), NOT);
+        due("drawn", x.drawn(1, 201, 0), 100);
+        due("but at pace 1", x.heaviest(0, 1), 50 - 18);
+        due("in deed", x.play(0), 50);
+        tell(x, "h=0?9;50");
+        due("claque by one more", x.claque(0, 91), 1);
+        tell(x, "18");
+        due("fewest, one", x.fewest(59, -1), 1);
+        x.hands(1, 0);
+        tell(x, "h=1?-1;18");
+        due("harm by one less", x.harm(0), 2);
     }
 
     private static void orderFromNow() {
@@ -412,6 +427,11 @@ public final class EdgesThoughtTest extends Told {
                 due("for " + weights[w] + ", place " + k, x.fewest(weights[w], k), best[w][k]);
             }
         }
+        due("one of 1 is too little", x.fewest(21, 0), 0);
+        due("a shorter one behind a longer one", x.fewest(20, 0), 1);
+        due("a lighter one behind a heavier one", x.fewest(10, 0), 0);
+        x.order(-1);
+        due("an order before changes nothing", x.fewest(15, 0), 1);
         due("for 35: 0 1 is too little", x.fewest(35, 0), 1);
         due("for 25: 0 1 goes ahead of 0 2", x.fewest(25, 1), 1);
     }
@@ -682,16 +702,19 @@ public final class EdgesThoughtTest extends Told {
         due("row 5: 905 by 51 hands, too", x.claque(0, 5905), 1);
         due("row 5, weight 900", x.claque(0, 5900), 0);
         due("no row 6", x.claque(0, 6000), BAD);
+        IceOfApplause y = iced(0, 0);
+        y.hands(10, 0);
+        y.hands(20, 0);
+        bytes(y, 0, 0);
+        tell(y, "h=22?1;0");
+        due("row 0: 22 hands", y.claque(0, 1), 22);
+        due("row 1: 12 hands more", y.claque(0, 1001), 12);
+        due("row 2: 2 hands more", y.claque(0, 2001), 2);
         for (int k = 1; k < 6; k++) {
             due("HANDS of " + k, x.of(k, 0), 10 * k);
         }
-        x.play(0);
-        due("999 on 999 would do", iced999().claque(0, 999), 0);
-    }
-
-    private static IceOfApplause iced999() {
-        IceOfApplause x = iced(999, 999);
-        x.row(0, 0, 1);
-        return x;
+        IceOfApplause z = iced(999, 999);
+        bytes(z, 0, 0);
+        due("999 on 999", z.claque(0, 999), 0);
     }
 }

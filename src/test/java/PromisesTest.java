@@ -49,16 +49,6 @@ public final class PromisesTest extends Told {
 
     // ---- helpers
 
-    private static int value(String text) {
-        IceOfApplause x = new IceOfApplause();
-        x.hands(7, 5);
-        x.mend(0, 2, 3);
-        x.mend(0, 3, 2);
-        x.turn(6, 1);
-        C.due("law " + text, tell(x, text), 1);
-        return x.gives(0, 1);
-    }
-
     private static void fault(String text, int place) {
         C.due("law " + text, tell(new IceOfApplause(), text), -100 - place);
     }
@@ -236,52 +226,52 @@ public final class PromisesTest extends Told {
 
     private static void law() {
         C.promise(8, "law");
-        C.due("a number", value("0042"), 42);
-        C.due("held above", value("9999"), 99);
-        C.due("held below", value("-9999"), -99);
-        C.due("g", value("g"), 6);
-        C.due("h", value("h"), 7);
-        C.due("t", value("t"), 3);
-        C.due("e", value("e"), 2);
-        C.due("d", value("d"), 4);
-        C.due("i", value("i"), 0);
-        C.due("times ahead of plus", value("1+2*3"), 7);
-        C.due("from the left", value("20-5-3"), 12);
-        C.due("from the left", value("40/4*2%7"), 6);
-        C.due("( )", value("(1+2)*3"), 9);
-        C.due("cut toward 0", value("-7/2"), -3);
-        C.due("rest toward 0", value("-7%4"), -3);
-        C.due("by 0", value("7/0+1"), 1);
-        C.due("rest by 0", value("7%0+1"), 1);
-        C.due("less", value("2<3"), 1);
-        C.due("not less", value("3<3"), 0);
-        C.due("like", value("3=3"), 1);
-        C.due("not like", value("3=4"), 0);
-        C.due("more", value("4>3"), 1);
-        C.due("not more", value("3>3"), 0);
-        C.due("plus ahead of less", value("1+1<1+2"), 1);
-        C.due("or gives 1", value("0|5"), 1);
-        C.due("or gives 0", value("0|0"), 0);
-        C.due("and gives 1", value("4&2"), 1);
-        C.due("and gives 0", value("4&0"), 0);
-        C.due("and ahead of or", value("1|0&0"), 1);
-        C.due("less ahead of and", value("3&2<1"), 0);
-        C.due("not", value("!0"), 1);
-        C.due("not not", value("!!7"), 1);
-        C.due("not is tight", value("!0+1"), 2);
-        C.due("minus minus", value("--5"), 5);
-        C.due("a minus behind a minus", value("3--5"), 8);
-        C.due("a minus behind times", value("3*-5"), -15);
-        C.due("wraps", value("9999*9999*9999*9999%97"), 9999 * 9999 * 9999 * 9999 % 97);
-        C.due("first line that counts", value("0?1;g=6?2;3"), 2);
-        C.due("a line without a first E", value("0?1;4;5"), 4);
-        C.due("none counts", value("0?1;0?2"), 0);
-        C.due("first E below 0 counts", value("-1?8;9"), 8);
-        C.due("six open", value("((((((5))))))"), 5);
-        C.due("six open", value("------5"), 5);
-        C.due("six open of three sorts", value("(!-(!-5))"), 1);
-        C.due("closed ones are not open", value("(1)+(2)+(3)+(4)+(5)+(6)+(7)"), 28);
-        C.due("closed ones are not open", value("-1-1-1-1-1-1-1-1-1"), -9);
+        C.due("a number", worth("0042"), 42);
+        C.due("held above", worth("9999"), 99);
+        C.due("held below", worth("-9999"), -99);
+        C.due("g", worth("g"), 6);
+        C.due("h", worth("h"), 7);
+        C.due("t", worth("t"), 3);
+        C.due("e", worth("e"), 2);
+        C.due("d", worth("d"), 4);
+        C.due("i", worth("i"), 0);
+        C.due("times ahead of plus", worth("1+2*3"), 7);
+        C.due("from the left", worth("20-5-3"), 12);
+        C.due("from the left", worth("40/4*2%7"), 6);
+        C.due("( )", worth("(1+2)*3"), 9);
+        C.due("cut toward 0", worth("-7/2"), -3);
+        C.due("rest toward 0", worth("-7%4"), -3);
+        C.due("by 0", worth("7/0+1"), 1);
+        C.due("rest by 0", worth("7%0+1"), 1);
+        C.due("less", worth("2<3"), 1);
+        C.due("not less", worth("3<3"), 0);
+        C.due("like", worth("3=3"), 1);
+        C.due("not like", worth("3=4"), 0);
+        C.due("more", worth("4>3"), 1);
+        C.due("not more", worth("3>3"), 0);
+        C.due("plus ahead of less", worth("1+1<1+2"), 1);
+        C.due("or gives 1", worth("0|5"), 1);
+        C.due("or gives 0", worth("0|0"), 0);
+        C.due("and gives 1", worth("4&2"), 1);
+        C.due("and gives 0", worth("4&0"), 0);
+        C.due("and ahead of or", worth("1|0&0"), 1);
+        C.due("less ahead of and", worth("3&2<1"), 0);
+        C.due("not", worth("!0"), 1);
+        C.due("not not", worth("!!7"), 1);
+        C.due("not is tight", worth("!0+1"), 2);
+        C.due("minus minus", worth("--5"), 5);
+        C.due("a minus behind a minus", worth("3--5"), 8);
+        C.due("a minus behind times", worth("3*-5"), -15);
+        C.due("wraps", worth("9999*9999*9999*9999%97"), 9999 * 9999 * 9999 * 9999 % 97);
+        C.due("first line that counts", worth("0?1;g=6?2;3"), 2);
+        C.due("a line without a first E", worth("0?1;4;5"), 4);
+        C.due("none counts", worth("0?1;0?2"), 0);
+        C.due("first E below 0 counts", worth("-1?8;9"), 8);
+        C.due("six open", worth("((((((5))))))"), 5);
+        C.due("six open", worth("------5"), 5);
+        C.due("six open of three sorts", worth("(!-(!-5))"), 1);
+        C.due("closed ones are not open", worth("(1)+(2)+(3)+(4)+(5)+(6)+(7)"), 28);
+        C.due("closed ones are not open", worth("-1-1-1-1-1-1-1-1-1"), -9);
 
         IceOfApplause x = small();
         C.due("without a text", x.gives(0, 0), 40);

@@ -69,6 +69,29 @@ abstract class Told {
         return x;
     }
 
+    /** No ice, no thaw; turns of GOOD 0, 1, .. clapped for by a law. */
+    static IceOfApplause turns(int many, String law) {
+        IceOfApplause x = new IceOfApplause();
+        x.mend(0, 7, 0);
+        x.hands(1, 0);
+        for (int k = 0; k < many; k++) {
+            x.turn(k, 1);
+        }
+        due("law " + law, tell(x, law), 1);
+        return x;
+    }
+
+    /** What a law gives: GOOD 6, HANDS 7, TASTE 3, ENVY 2, from plank 5 to plank 1, where no ice is. */
+    static int worth(String text) {
+        IceOfApplause x = new IceOfApplause();
+        x.hands(7, 5);
+        x.mend(0, 2, 3);
+        x.mend(0, 3, 2);
+        x.turn(6, 1);
+        due("law " + text, tell(x, text), 1);
+        return x.gives(0, 1);
+    }
+
     /** A body of each kind, numbered as its kind. */
     static IceOfApplause oneOfEach() {
         IceOfApplause x = new IceOfApplause();
