@@ -644,7 +644,9 @@ public final class IceOfApplause {
                 steps[length] = step;
                 length++;
             }
-            looksAtIce |= step == ICE_NAME;
+            if (step == ICE_NAME) {
+                looksAtIce = true;
+            }
         }
 
         void endLine(int when) {
@@ -1089,9 +1091,10 @@ public final class IceOfApplause {
                 return BAD;
             }
             int was = hall.numbers[place];
+            int planks = hall.planks();
             int best = -1;
             int seat = 0;
-            for (int p = 0; p < hall.planks(); p++) {
+            for (int p = 0; p < planks; p++) {
                 hall.change(place, p);
                 int carried = carriedWithout(NO_BYTE);
                 if (carried > best) {
